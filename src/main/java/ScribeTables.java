@@ -139,8 +139,8 @@ public final class ScribeTables {
 
     public int send(int from, int to, int saying) {
         if (!live.people.areTwo(from, to) || !isSaying(saying)) return found(BEYOND);
-        int heard = live.letter(from, to, saying);
-        return heard < 0 ? found(STATE) : heard;
+        int told = live.letter(from, to, saying);
+        return told < 0 ? found(STATE) : told;
     }
 
     public int years(int n) {
@@ -927,10 +927,10 @@ public final class ScribeTables {
             if (people.pence[from] < fee(from) || people.pence[to] < fee(to)) return -1;
             pay(from);
             pay(to);
-            int heard = heard(to, heard(from, saying));
-            people.beliefs[to] |= heard;
+            int told = heard(to, heard(from, saying));
+            people.beliefs[to] |= told;
             sent++;
-            return heard;
+            return told;
         }
 
         void passYears(int n) {

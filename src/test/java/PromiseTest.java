@@ -556,6 +556,7 @@ public final class PromiseTest {
         due(x.near(0, marks(0, 5), marks(5, 6)), 1);
         due(x.near(0, 4095, 0), 10);
         due(x.near(0, 0, 0), 0);
+        due(with("writer").near(0, 0, 4095), 12);
         due(x.near(0, 0, 4092), 10);
         due(x.near(0, 0, marks(0)), NONE);
         due(x.near(1, marks(5), 0), NONE);
@@ -980,6 +981,12 @@ public final class PromiseTest {
         due(x.judge(1, 1), 0);
         all(BEYOND, x.judge(4, 0), x.judge(-1, 0), x.judge(0, 3), x.judge(0, -1));
         all(MISSING, x.judge(2, 0), x.judge(2, 9));
+        ScribeTables terse = with("terse");
+        terse.sheet(0, 16, 1);
+        for (int v = 0; v < 4096; v += 23) {
+            terse.write(0, 0, v);
+            due(terse.judge(0, 0), Integer.bitCount(v) <= 2 ? 0 : 1);
+        }
     }
 
     private static void image() {
