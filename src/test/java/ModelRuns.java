@@ -881,7 +881,10 @@ public final class ModelRuns {
         return b.toString();
     }
 
+    private static int calls = 0;
+
     static boolean same(ScribeTables x, Model m, int run, String name, int... a) {
+        calls++;
         int want = m.call(name, a);
         int got = call(x, name, a);
         if (got != want) {
@@ -894,6 +897,7 @@ public final class ModelRuns {
         Random r = new Random(run);
         ScribeTables x = new ScribeTables();
         Model m = new Model();
+        calls = 0;
         boolean ok = true;
         int begin = r.nextInt(4);
         for (int i = 0; i < begin + 1 && run % 4 != 0; i++) {
@@ -905,7 +909,8 @@ public final class ModelRuns {
             ok &= same(x, m, run, "change", i, 0, fewMarks(r));
             ok &= same(x, m, run, "change", i, 3, r.nextInt(1000));
         }
-        for (int i = 0; i < 300 && ok; i++) {
+        // the document promises 512 calls: a text takes some thirty, what is asked at the end some hundred
+        while (calls < 360 && ok) {
             String[] parts = CALLS[r.nextInt(CALLS.length)].split(" ");
             if (parts[0].equals("TEXT")) {
                 String t = text(r);

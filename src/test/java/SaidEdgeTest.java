@@ -136,7 +136,7 @@ public final class SaidEdgeTest extends Sentences {
         due(x.honest(4), 128);
         // at most four MARKS
         due(x.honest(5), 1 + 12 + 66 + 220 + 495);
-        x = with("writer cuts 0 adds 1 when 0;clerk;deaf;terse;writer adds 1 2 3 4 5 6 7 8 9 10 11 when 0;poet adds 0 1 2 3 4 5 6 7 8 9 10 11");
+        x = with("writer cuts 0 adds 1 when 0;clerk;deaf;terse", "writer adds 1 2 3 4 5 6 7 8 9 10 11 when 0;poet adds 0 1 2 3 4 5 6 7 8 9 10 11");
         // those without MARK 0; those with it and at most four, all in all
         each(new int[] {2048, 1 + 11 + 55 + 165, 64, 79}, x.honest(0), x.honest(1), x.honest(2), x.honest(3));
         // without MARK 0, and the one that has all; that one alone

@@ -178,6 +178,7 @@ abstract class Sentences {
     }
 
     static void feed(ScribeTables x, String text) {
+        if (text.length() > 120) tell("the test's own text is too long: " + text);
         for (int i = 0; i < text.length(); i += 4) {
             int n = Math.min(4, text.length() - i);
             int bytes = 0;
