@@ -208,6 +208,11 @@ public final class AheadEdgeTest extends Sentences {
         ScribeTables x = with("writer adds 5 when 1;writer;writer;writer;writer;poet adds 11;person by 0 truth 1;person by 5;tie 0 1");
         each(new int[] {1, 32, 0, 0}, x.added(5, 1), x.added(11, 1), x.added(1, 1), x.added(0, 1));
         all(0, x.added(5, 0), x.added(11, 0));
+        // each of three is wanted for it
+        x = with("poet adds 5;writer adds 6 when 5;writer;writer;writer;writer adds 7 when 6;person by 1;person by 5;person by 0",
+            "tie 0 1;tie 1 2;tie 0 2");
+        each(new int[] {7, 7}, x.without(2, 7, 2), x.without(4, 7, 2));
+        each(new int[] {1, 35, 3}, x.added(5, 2), x.added(7, 2), x.added(6, 2));
         // one of two fewer is fewer
         x = with("writer adds 5 when 1;person by 0 truth 1;person by 0;person by 0 truth 5;person by 0;tie 0 1;tie 2 3");
         due(x.ahead(1, 0), 4);

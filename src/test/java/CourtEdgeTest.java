@@ -49,6 +49,8 @@ public final class CourtEdgeTest extends Sentences {
         // the deaf one is right for one SAYING, the plain one for two, of which one has all MARKS
         x = with("deaf cuts 2;writer;poet cuts 5 adds 0 1 3 6 7 8 9 10 11");
         due(x.witness(2), 1);
+        sentence("32: one who is right for one SAYING leaves fewer than one who is for none");
+        due(with("terse;poet cuts 0 1 2 3 5 6 7 adds 4 10").witness(1), 1);
         changesNothing(Sentences::town, y -> y.witness(0), y -> y.witness(2));
         sentence("32: BEYOND.");
         refusedFor(outside(0, 2), BEYOND, Sentences::town, (y, w) -> y.witness(w));
@@ -156,6 +158,12 @@ public final class CourtEdgeTest extends Sentences {
         x.change(0, PENCE, 4);
         // as it is: one letter, by both; then two, by the other one
         due(x.school(2), 0);
+        sentence("34: both YEARS AHEAD begin with all as it is");
+        // 8 PENCE are the two letters of one YEAR
+        x = coupleWith(8);
+        due(x.school(2), 2);
+        x = coupleWith(4);
+        due(x.school(2), 1);
         due(new ScribeTables().school(2), 0);
         due(with("writer;person by 0").school(8), 0);
         changesNothing(Sentences::town, y -> y.school(2), y -> y.school(8));

@@ -51,6 +51,11 @@ public final class SaidEdgeTest extends Sentences {
         each(new int[] {0, 0, 1}, x.said(3, 1, 0), x.said(3, 1, 1), x.said(3, 1, 2));
         each(new int[] {0, 0, marks(5, 9)}, x.said(4, marks(5, 11), 0), x.said(4, marks(5, 11), 1), x.said(4, marks(5, 11), 2));
         each(new int[] {marks(3, 8), marks(3, 8), 4095 - 7 - marks(4, 5, 6, 7)}, x.said(5, marks(3, 8), 0), x.said(5, marks(3, 8), 1), x.said(5, marks(3, 8), 2));
+        x = with("deaf;form;deaf cuts 0 2 4 6 8 10;terse cuts 11");
+        each(new int[] {0, 0, marks(1, 3, 5, 7, 9, 11)}, x.said(0, 0, 0), x.said(0, 0, 1), x.said(0, 0, 2));
+        each(new int[] {15, 15, 4095}, x.said(1, 15, 0), x.said(1, 15, 1), x.said(1, 15, 2));
+        each(new int[] {0, 0, 4095}, x.said(2, 0, 0), x.said(2, 0, 1), x.said(2, 0, 2));
+        each(new int[] {0, 0, marks(11)}, x.said(3, 0, 0), x.said(3, 0, 1), x.said(3, 0, 2));
         changesNothing(Sentences::town, y -> y.said(0, 0, 0), y -> y.said(0, 0, 1), y -> y.said(0, 0, 2));
         sentence("24: NONE.");
         for (int what = 0; what < 3; what++) {

@@ -101,7 +101,7 @@ public final class TextEdgeTest extends Sentences {
 
     private static void faultsOfItems() {
         sentence("39: FAULT: the place of the first byte of the first TOKEN that can't stand there, or how many bytes there are if it ends too early.");
-        faults(TextEdgeTest::townWithoutTape, "^", "   ^", "^;", " ^; writer", "^x", "^writers", "^write", "^writersoft", "^wri ter", "^ties 0 1", "^persons by 0",
+        faults(TextEdgeTest::townWithoutTape, "^", "   ^", "^;", " ^; writer", "^x", "^writers", "^write", "^writersoft", "^wri ter", "^writerz", "^azwriter", "^zwriter", "^vriter", "^toft", "^dorm", "^boet", "^blerk", "^leaf", "^verse", "^berson by 0", "^die 0 1", "^ties 0 1", "^persons by 0",
             "^5", "^0 writer", "^cuts 3", "^adds", "^when 1", "^price 3", "^by 0", "^truth 3", "^pence", "writer;^", "writer; ^", "writer;  ^;soft", "writer;^5", "writer ;^cuts 3",
             "tie 0 3;^by", "tie 0 3;^", "person by 0;^", "writer ^writer", "writer ^soft", "tie 0 1 ^tie 0 1", "person by 0 ^person by 0", "writer;soft;^x;form");
         sentence("39: FAULT: a byte that begins no TOKEN");
@@ -117,6 +117,8 @@ public final class TextEdgeTest extends Sentences {
             faults(TextEdgeTest::townWithoutTape, kind + " ^3", kind + " ^x", kind + " ^by 0", kind + " ^truth 3", kind + " ^pence 3", kind + " ^tie", kind + "^!",
                 kind + " adds 3 ^cuts 3", kind + " when 3 ^cuts 3", kind + " when 3 ^adds 3", kind + " price 3 ^cuts 3", kind + " price 3 ^adds 3", kind + " price 3 ^when 3", kind + " price 3 ^price 3");
         }
+        faults(TextEdgeTest::townWithoutTape, "soft ^buts 3", "soft ^odds 3", "soft ^then 3", "soft ^trice 3", "soft ^cut 3", "soft ^add 3", "soft ^pricez 3", "person ^my 0", "person ^b 0", "person ^byz 0", "person by 0 ^druth 3", "person by 0 ^fence 3", "person by 0 ^penc 3",
+            "person by 0 ^truthz 3");
         sentence("39: MARKS: 1 or more NUMBERS (0 to 11)");
         for (String set : SETS) {
             String begin = "soft " + set;
