@@ -113,6 +113,44 @@ public final class AheadEdgeTest extends Sentences {
         aheadOfPeople();
     }
 
+    /** The slowest that a search found: eight in a row. */
+    private static ScribeTables slow() {
+        int[][] laws = {{FORM, 1570, 2542, 3375}, {PLAIN, 802, 2856, 151}, {DEAF, 2363, 3363, 2810}, {SOFT, 36, 526, 513}, {POET, 2279, 3868, 1016}, {PLAIN, 640, 2391, 3750}};
+        int[] writers = {2, 3, 1, 5, 5, 4, 0, 0};
+        int[] truths = {128, 0, 520, 40, 544, 552, 8, 8};
+        int[][] ties = {{0, 2}, {1, 7}, {2, 5}, {3, 6}, {3, 7}, {4, 5}, {4, 6}};
+        ScribeTables x = new ScribeTables();
+        for (int w = 0; w < 6; w++) {
+            x.writer(PLAIN);
+            for (int what = 0; what < 4; what++) x.law(w, what, laws[w][what]);
+            x.law(w, PRICE, 0);
+        }
+        for (int p = 0; p < 8; p++) {
+            x.person(writers[p]);
+            x.change(p, TRUTH, truths[p]);
+            x.change(p, LETTERED, p > 2 ? 1 : 0);
+        }
+        for (int[] t : ties) x.tie(t[0], t[1], true);
+        return x;
+    }
+
+    private static void whenSlow() {
+        sentence("18: Behind how many YEARS AHEAD: many");
+        ScribeTables x = slow();
+        due(x.when(0, 2), 38);
+        for (int n = 0; n <= 60; n++) due(x.ahead(n, 3) >> 2 & 1, n < 38 ? 0 : 1);
+        for (int y = 1; y <= 38; y++) {
+            due(x.years(1), 14);
+            due(x.when(0, 2), 38 - y);
+        }
+        x = slow();
+        inYear(x, 30);
+        due(x.when(0, 2), 8);
+        due(x.of(0, BELIEFS) >> 2 & 1, 0);
+        due(x.years(8), 112);
+        due(x.of(0, BELIEFS) >> 2 & 1, 1);
+    }
+
     private static void when() {
         sentence("18: Behind how many YEARS (0 to 60) AHEAD a person believes a MARK.");
         // against the numbers a MARK goes one TIE a YEAR; 7, who knows it, hears of it from 6
@@ -355,6 +393,7 @@ public final class AheadEdgeTest extends Sentences {
     public static void main(String[] args) {
         ahead();
         when();
+        whenSlow();
         without();
         added();
         best();

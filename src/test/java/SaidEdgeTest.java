@@ -201,10 +201,36 @@ public final class SaidEdgeTest extends Sentences {
         due(x.round(1, 4), 16);
         due(x.round(1, 5), 1);
         all(1, new ScribeTables().settles(0), new ScribeTables().settles(4095));
+        settlesLate();
         changesNothing(Sentences::town, y -> y.settles(0), y -> y.settles(4095));
         sentence("30: BEYOND.");
         refusedFor(outside(0, 4095), BEYOND, Sentences::town, (y, s) -> y.settles(s));
         refusedFor(outside(0, 4095), BEYOND, ScribeTables::new, (y, s) -> y.settles(s));
+    }
+
+    /** The latest that a search found. */
+    private static void settlesLate() {
+        int[][] laws = {{FORM, 1040, 2848, 336}, {FORM, 1416, 20, 72}, {SOFT, 652, 8, 968}, {FORM, 322, 516, 582}, {PLAIN, 2113, 3330, 2115}, {FORM, 1377, 3073, 32}};
+        ScribeTables x = new ScribeTables();
+        for (int w = 0; w < 6; w++) {
+            x.writer(PLAIN);
+            for (int what = 0; what < 4; what++) x.law(w, what, laws[w][what]);
+        }
+        due(x.settles(2563), 30);
+        // those behind 0 to 29 rounds are all unlike, the one behind 30 is one of them
+        int s = 2563;
+        int[] been = new int[31];
+        for (int r = 0; r <= 30; r++) {
+            been[r] = s;
+            s = x.round(s, 1);
+        }
+        boolean again = false;
+        for (int i = 0; i < 30; i++) {
+            again |= been[i] == been[30];
+            for (int k = 0; k < i; k++) if (been[i] == been[k]) due(i, -1);
+        }
+        due(again ? 1 : 0, 1);
+        for (int n = 0; n <= 20; n++) due(x.round(2563, n), been[n]);
     }
 
     public static void main(String[] args) {
