@@ -6,7 +6,9 @@ import java.nio.file.Files;
 import java.nio.file.Path;
 import java.util.ArrayList;
 import java.util.List;
+import java.util.Map;
 import java.util.Set;
+import java.util.TreeMap;
 import java.util.TreeSet;
 import java.util.regex.Matcher;
 import java.util.regex.Pattern;
@@ -15,6 +17,12 @@ import java.util.regex.Pattern;
 public final class FaceTest {
     private static final Path SOURCE = Path.of("src/main/java/ScribeTables.java");
     private static final Path DOCUMENT = Path.of("../shared/DOC.md");
+    private static final Set<String> CONSTANTS = Set.of("int", "long", "boolean", "char", "String", "int[]", "long[]", "char[]", "byte[]");
+    /** What the program uses of the library; LANGUAGE.md lists more. */
+    private static final Set<String> LIBRARY = Set.of("Arrays.fill", "System.arraycopy", "Integer.bitCount", "Math.min");
+    /** Of which class the objects are that the source calls so. */
+    private static final Map<String, String> CLASS_OF = Map.of("live", "World", "draft", "World", "kept", "World", "world", "World",
+        "writers", "Writers", "people", "People", "tape", "Tape", "reader", "TextReader", "sheets", "Sheets");
     private static int wrong = 0;
 
     private static void must(boolean is, String what) {
@@ -74,6 +82,7 @@ public final class FaceTest {
             for (Field f : n.getDeclaredFields()) {
                 boolean isStatic = Modifier.isStatic(f.getModifiers());
                 must(!isStatic || Modifier.isFinal(f.getModifiers()), f + " is final");
+                must(!isStatic || CONSTANTS.contains(f.getType().getSimpleName()), f + " is of a type that constants may have");
                 if (!isStatic) own++;
             }
             must(own <= 20, n + " has at most twenty fields");
@@ -95,7 +104,10 @@ public final class FaceTest {
         }
         Matcher m = Pattern.compile("import ([^;]+);").matcher(code);
         while (m.find()) must(m.group(1).equals("java.util.Arrays"), "no import of " + m.group(1));
+        m = Pattern.compile("\\b(Arrays|System|Math|Integer|Long|String|StringBuilder|List|ArrayList)\\.\\w+").matcher(code.replaceAll("import .*", ""));
+        while (m.find()) must(LIBRARY.contains(m.group()), "the library's " + m.group() + " is one of those that are used");
         shortMethods(code);
+        callsAreNotDeep(code);
     }
 
     private static void shortMethods(String code) {
@@ -106,6 +118,52 @@ public final class FaceTest {
             if (row.matches(" +(public|private|static|int|void|boolean|[A-Z]\\w*)[^=;]*\\{")) begin = line;
             if (row.matches(" {4,8}\\}")) must(line - begin <= 60, "the method at line " + begin + " has at most sixty lines");
         }
+    }
+
+    /** Each method, by its class and name, with those that it calls. */
+    private static Map<String, Set<String>> callsOf(String code) {
+        Map<String, String> bodies = new TreeMap<>();
+        String inClass = "";
+        Matcher m = Pattern.compile("(?m)^ *(?:(?:public|private|static|final) )*(?:class (\\w+)|[\\w\\[\\]]+ (\\w+)\\([^()]*\\)) \\{$").matcher(code);
+        while (m.find()) {
+            if (m.group(1) != null) {
+                inClass = m.group(1);
+                continue;
+            }
+            int open = 1;
+            int end = m.end();
+            for (; end < code.length() && open > 0; end++) open += code.charAt(end) == '{' ? 1 : code.charAt(end) == '}' ? -1 : 0;
+            must(bodies.put(inClass + "." + m.group(2), code.substring(m.end(), end)) == null, inClass + "." + m.group(2) + " is there once");
+        }
+        Map<String, Set<String>> calls = new TreeMap<>();
+        for (String method : bodies.keySet()) calls.put(method, calledIn(bodies.get(method), method.substring(0, method.indexOf('.')), bodies.keySet()));
+        return calls;
+    }
+
+    private static Set<String> calledIn(String body, String inClass, Set<String> methods) {
+        Set<String> called = new TreeSet<>();
+        Matcher m = Pattern.compile("(?:(\\w+)\\.)?\\b(\\w+)\\(").matcher(body);
+        while (m.find()) {
+            String of = m.group(1) == null ? inClass : CLASS_OF.get(m.group(1));
+            if (methods.contains(of + "." + m.group(2))) called.add(of + "." + m.group(2));
+        }
+        return called;
+    }
+
+    private static int depth(Map<String, Set<String>> calls, String method, int so) {
+        int deepest = so;
+        // a method that calls itself would never end here
+        if (so > 20) return so;
+        for (String called : calls.get(method)) deepest = Math.max(deepest, depth(calls, called, so + 1));
+        return deepest;
+    }
+
+    private static void callsAreNotDeep(String code) {
+        Map<String, Set<String>> calls = callsOf(code);
+        must(calls.size() > 120, "the source's methods are found: " + calls.size());
+        must(calls.get("World.letter").equals(Set.of("World.fee", "World.pay", "World.heard")), "the calls of a method are found");
+        for (String method : calls.keySet()) must(depth(calls, method, 1) <= 8, "calls of " + method + " go at most eight deep");
+        must(depth(calls, "ScribeTables.text", 1) == 8, "a TEXT is read by calls that go eight deep");
     }
 
     /** An object works with what its constructor made: a call makes nothing that would fill the room. */
