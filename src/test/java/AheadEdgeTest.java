@@ -113,12 +113,11 @@ public final class AheadEdgeTest extends Sentences {
         aheadOfPeople();
     }
 
-    /** The slowest that a search found: eight in a row. */
+    /** The slowest that a search found: a MARK is believed 57 YEARS later. */
     private static ScribeTables slow() {
-        int[][] laws = {{FORM, 1570, 2542, 3375}, {PLAIN, 802, 2856, 151}, {DEAF, 2363, 3363, 2810}, {SOFT, 36, 526, 513}, {POET, 2279, 3868, 1016}, {PLAIN, 640, 2391, 3750}};
-        int[] writers = {2, 3, 1, 5, 5, 4, 0, 0};
-        int[] truths = {128, 0, 520, 40, 544, 552, 8, 8};
-        int[][] ties = {{0, 2}, {1, 7}, {2, 5}, {3, 6}, {3, 7}, {4, 5}, {4, 6}};
+        int[][] laws = {{TERSE, 226, 2946, 32}, {FORM, 1288, 2520, 261}, {FORM, 225, 417, 70}, {SOFT, 276, 2630, 24}, {PLAIN, 1409, 3584, 501}, {FORM, 3640, 2720, 32}};
+        int[][] people = {{0, 256, 3}, {66, 0, 0}, {128, 1, 2}, {2056, 3080, 1}, {0, 0, 3}, {160, 33, 2}, {0, 1024, 4}, {3600, 512, 5}};
+        int[][] ties = {{0, 4}, {1, 4}, {1, 5}, {2, 5}, {2, 6}, {3, 6}, {3, 7}, {4, 7}};
         ScribeTables x = new ScribeTables();
         for (int w = 0; w < 6; w++) {
             x.writer(PLAIN);
@@ -126,10 +125,11 @@ public final class AheadEdgeTest extends Sentences {
             x.law(w, PRICE, 0);
         }
         for (int p = 0; p < 8; p++) {
-            x.person(writers[p]);
-            x.change(p, TRUTH, truths[p]);
-            x.change(p, LETTERED, p > 2 ? 1 : 0);
+            x.person(people[p][2]);
+            x.change(p, TRUTH, people[p][0]);
+            x.change(p, BELIEFS, people[p][1]);
         }
+        x.change(4, LETTERED, 1);
         for (int[] t : ties) x.tie(t[0], t[1], true);
         return x;
     }
@@ -137,18 +137,19 @@ public final class AheadEdgeTest extends Sentences {
     private static void whenSlow() {
         sentence("18: Behind how many YEARS AHEAD: many");
         ScribeTables x = slow();
-        due(x.when(0, 2), 38);
-        for (int n = 0; n <= 60; n++) due(x.ahead(n, 3) >> 2 & 1, n < 38 ? 0 : 1);
-        for (int y = 1; y <= 38; y++) {
-            due(x.years(1), 14);
-            due(x.when(0, 2), 38 - y);
+        due(x.when(5, 7), 57);
+        for (int n = 0; n <= 60; n++) due(x.ahead(n, 3 + 5) >> 7 & 1, n < 57 ? 0 : 1);
+        for (int y = 1; y <= 57; y++) {
+            due(x.years(1), 16);
+            due(x.when(5, 7), 57 - y);
         }
         x = slow();
         inYear(x, 30);
-        due(x.when(0, 2), 8);
-        due(x.of(0, BELIEFS) >> 2 & 1, 0);
-        due(x.years(8), 112);
-        due(x.of(0, BELIEFS) >> 2 & 1, 1);
+        due(x.when(5, 7), 27);
+        due(x.years(26), 416);
+        due(x.of(5, BELIEFS) >> 7 & 1, 0);
+        due(x.years(1), 16);
+        due(x.of(5, BELIEFS) >> 7 & 1, 1);
     }
 
     private static void when() {

@@ -208,29 +208,22 @@ public final class SaidEdgeTest extends Sentences {
         refusedFor(outside(0, 4095), BEYOND, ScribeTables::new, (y, s) -> y.settles(s));
     }
 
-    /** The latest that a search found. */
+    /** The latest that a search found: a set comes again behind 90 rounds. */
     private static void settlesLate() {
-        int[][] laws = {{FORM, 1040, 2848, 336}, {FORM, 1416, 20, 72}, {SOFT, 652, 8, 968}, {FORM, 322, 516, 582}, {PLAIN, 2113, 3330, 2115}, {FORM, 1377, 3073, 32}};
+        int[][] laws = {{PLAIN, 72, 2114, 1090}, {FORM, 73, 1032, 1025}, {FORM, 2052, 3073, 2117}, {SOFT, 116, 4, 20}, {FORM, 256, 3328, 333}, {FORM, 1538, 2560, 2481}};
         ScribeTables x = new ScribeTables();
         for (int w = 0; w < 6; w++) {
             x.writer(PLAIN);
             for (int what = 0; what < 4; what++) x.law(w, what, laws[w][what]);
         }
-        due(x.settles(2563), 30);
-        // those behind 0 to 29 rounds are all unlike, the one behind 30 is one of them
-        int s = 2563;
-        int[] been = new int[31];
-        for (int r = 0; r <= 30; r++) {
-            been[r] = s;
-            s = x.round(s, 1);
-        }
-        boolean again = false;
-        for (int i = 0; i < 30; i++) {
-            again |= been[i] == been[30];
-            for (int k = 0; k < i; k++) if (been[i] == been[k]) due(i, -1);
-        }
-        due(again ? 1 : 0, 1);
-        for (int n = 0; n <= 20; n++) due(x.round(2563, n), been[n]);
+        // those behind 0 to 89 rounds are all unlike, the one behind 90 is the one behind 74
+        int[] been = new int[91];
+        been[0] = 2630;
+        for (int r = 0; r < 90; r++) been[r + 1] = x.round(been[r], 1);
+        for (int i = 0; i < 90; i++) for (int k = 0; k < i; k++) if (been[i] == been[k]) due(i, -1);
+        due(been[90], been[74]);
+        for (int r = 0; r <= 90; r++) due(x.settles(been[r]), Math.max(90 - r, 16));
+        for (int n = 0; n <= 20; n++) due(x.round(been[0], n), been[n]);
     }
 
     public static void main(String[] args) {
